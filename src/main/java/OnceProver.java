@@ -1,5 +1,3 @@
-import java.util.Arrays;
-
 /**
  * A prover for a fragment of linear logic: goals are proved from resources, each of which has to be
  * used exactly once, and from wells, which can be used as often as needed.
@@ -189,7 +187,8 @@ public final class OnceProver {
         if (!hasGoal()) {
             return STATE;
         }
-        findFirstProof();
+        prepare();
+        firstProof.find(allResources());
         if (!firstProof.exists()) {
             return NONE;
         }
@@ -209,7 +208,8 @@ public final class OnceProver {
         if (!hasGoal()) {
             return STATE;
         }
-        findFirstProof();
+        prepare();
+        firstProof.find(allResources());
         return firstProof.usesOf(kind == 0 ? n : SINGLES + n);
     }
 
@@ -229,7 +229,8 @@ public final class OnceProver {
         }
         attempt.clear();
         if (n == 1) {
-            findFirstProof();
+            prepare();
+            firstProof.find(allResources());
             for (int i = 0; i < firstProof.length() && i < MAX_TRIAL; i++) {
                 attempt.append(firstProof.at(i));
             }
@@ -392,9 +393,13 @@ public final class OnceProver {
         }
     }
 
-    private void findFirstProof() {
-        prepare();
-        firstProof.find(allResources());
+    private static int partsOf(int set) {
+        return 1 << Integer.bitCount(set & SETS - 1);
+    }
+
+    /** The next greater part of a set: the borrow runs through the bits that the set does not have. */
+    private static int nextPart(int part, int set) {
+        return part - set & set;
     }
 
     /** The text that is being written. */
@@ -416,7 +421,11 @@ public final class OnceProver {
         }
 
         char[] copy() {
-            return Arrays.copyOf(signs, length);
+            char[] copy = new char[Math.max(0, Math.min(length, signs.length))];
+            for (int i = 0; i < copy.length && i < signs.length; i++) {
+                copy[i] = signs[i];
+            }
+            return copy;
         }
 
         void clear() {
@@ -544,20 +553,17 @@ public final class OnceProver {
             clear();
             for (int slot = 0; slot < SLOTS; slot++) {
                 Item item = stock.at(slot);
-                if (item != null) {
-                    layOut(slot, item);
+                if (item == null) {
+                    continue;
                 }
-            }
-        }
-
-        private void layOut(int slot, Item item) {
-            Reader reader = new Reader(item.signs(), this);
-            if (slot == GOAL_SLOT) {
-                root = reader.readWholeGoal();
-            } else if (slot < WELL_SLOT) {
-                reader.readWholeOffer(slot - RESOURCE_SLOT);
-            } else {
-                reader.readWholeOffer(SINGLES + slot - WELL_SLOT);
+                Reader reader = new Reader(item.signs(), this);
+                if (slot == GOAL_SLOT) {
+                    root = reader.readWholeGoal();
+                } else if (slot < WELL_SLOT) {
+                    reader.readWholeOffer(slot - RESOURCE_SLOT);
+                } else {
+                    reader.readWholeOffer(SINGLES + slot - WELL_SLOT);
+                }
             }
         }
 
@@ -759,7 +765,7 @@ public final class OnceProver {
 
         /** The sign at the place; END behind the text, and once there is a fault. */
         private char next() {
-            return !failed() && place >= 0 && place < signs.length ? signs[place] : END;
+            return fault == NONE && place >= 0 && place < signs.length ? signs[place] : END;
         }
 
         private void expect(char sign) {
@@ -778,7 +784,7 @@ public final class OnceProver {
 
         /** Keeps the first fault alone. */
         private int refuse() {
-            if (!failed()) {
+            if (fault == NONE) {
                 fault = place;
             }
             return NO_NODE;
@@ -795,25 +801,27 @@ public final class OnceProver {
      */
     private static final class Reach {
         private static final int WORDS = 4, WORD_BITS = 6, WORD_MASK = 63;
-        private static final int ROWS = (MAX_HEIGHT + 1) * MAX_NODES;
-        // For each of the lowest six offers: which of 64 sets are without it.
-        private static final long[] WITHOUT = {
-            0x5555555555555555L, 0x3333333333333333L, 0x0F0F0F0F0F0F0F0FL,
-            0x00FF00FF00FF00FFL, 0x0000FFFF0000FFFFL, 0x00000000FFFFFFFFL
-        };
-
         private final Plan plan;
-        private final long[] bits = new long[ROWS * WORDS];
+        private final long[] bits = new long[(MAX_HEIGHT + 1) * MAX_NODES * WORDS];
         private final long[] allSets = new long[WORDS];
+        // For each of the 64 sets of the lowest six offers: which of them have nothing in common with it.
+        private final long[] apart = new long[WORD_MASK + 1];
         private int top = 0;
 
         Reach(Plan plan) {
             this.plan = plan;
+            for (int set = 0; set < apart.length; set++) {
+                for (int other = 0; other <= WORD_MASK; other++) {
+                    if ((set & other) == 0) {
+                        apart[set] |= 1L << other;
+                    }
+                }
+            }
         }
 
         /** Once a height adds nothing, no greater one does: the rows end there, with the top. */
         void compute() {
-            fillAllSets();
+            findAllSets();
             boolean grown = true;
             top = 0;
             for (int height = 1; height <= MAX_HEIGHT && grown; height++) {
@@ -843,12 +851,15 @@ public final class OnceProver {
             return NONE;
         }
 
-        private void fillAllSets() {
-            int absent = ~plan.singles();
-            Arrays.fill(allSets, 0L);
-            for (int set = 0; set < SETS; set++) {
-                if ((set & absent) == 0) {
-                    allSets[set >> WORD_BITS] |= 1L << (set & WORD_MASK);
+        /** The sets of single-use offers that are all there: what T is proved from. */
+        private void findAllSets() {
+            int singles = plan.singles();
+            for (int word = 0; word < WORDS; word++) {
+                allSets[word] = 0L;
+                for (int low = 0; low <= WORD_MASK; low++) {
+                    if (((word << WORD_BITS | low) & ~singles) == 0) {
+                        allSets[word] |= 1L << low;
+                    }
                 }
             }
         }
@@ -894,26 +905,28 @@ public final class OnceProver {
             for (int offer = 0; offer < OFFERS; offer++) {
                 int own = offer < SINGLES ? 1 << offer : 0;
                 for (int face = 0; face < FACES; face++) {
-                    if (plan.hasHead(offer, face, head)) {
-                        addFace(to, own, plan.body(offer, face), height);
+                    if (!plan.hasHead(offer, face, head)) {
+                        continue;
+                    }
+                    int body = plan.body(offer, face);
+                    if (body == NO_NODE) {
+                        add(to, own);
+                    } else {
+                        addMoved(to, rowOf(body, height - 1), own);
                     }
                 }
             }
         }
 
-        private void addFace(int to, int own, int body, int height) {
-            if (body == NO_NODE) {
-                add(to, own);
-            } else {
-                addMoved(to, rowOf(body, height - 1), own);
-            }
-        }
-
         /** The unions of a set of the one row and a set of the other that have nothing in common. */
         private void addUnions(int to, int first, int second) {
-            for (int set = 0; set < SETS; set++) {
-                if (has(first, set)) {
-                    addMoved(to, second, set);
+            for (int word = 0; word < WORDS; word++) {
+                long sets = wordAt(first, word);
+                for (int bit = 0; bit <= WORD_MASK && sets != 0L; bit++) {
+                    if ((sets & 1L) != 0) {
+                        addMoved(to, second, word << WORD_BITS | bit);
+                    }
+                    sets >>>= 1;
                 }
             }
         }
@@ -922,7 +935,7 @@ public final class OnceProver {
         private void addMoved(int to, int from, int added) {
             int low = added & WORD_MASK;
             int high = added >> WORD_BITS;
-            long free = setsWithout(low);
+            long free = apart[low];
             for (int word = 0; word < WORDS; word++) {
                 if ((word & high) == 0) {
                     orWord(to, word | high, (wordAt(from, word) & free) << low);
@@ -934,7 +947,7 @@ public final class OnceProver {
         private void addReduced(int to, int from, int removed) {
             int low = removed & WORD_MASK;
             int high = removed >> WORD_BITS;
-            long free = setsWithout(low);
+            long free = apart[low];
             for (int word = 0; word < WORDS; word++) {
                 if ((word & high) == 0) {
                     orWord(to, word, (wordAt(from, word | high) >>> low) & free);
@@ -975,39 +988,25 @@ public final class OnceProver {
 
         private void clearRow(int row) {
             for (int word = 0; word < WORDS; word++) {
-                if (isWord(row, word)) {
-                    bits[row * WORDS + word] = 0L;
+                if (row >= 0 && row + word < bits.length) {
+                    bits[row + word] = 0L;
                 }
             }
         }
 
         private long wordAt(int row, int word) {
-            return isWord(row, word) ? bits[row * WORDS + word] : 0L;
+            return row >= 0 && word >= 0 && row + word < bits.length ? bits[row + word] : 0L;
         }
 
         private void orWord(int row, int word, long sets) {
-            if (isWord(row, word)) {
-                bits[row * WORDS + word] |= sets;
+            if (row >= 0 && word >= 0 && row + word < bits.length) {
+                bits[row + word] |= sets;
             }
         }
 
-        /** The rows of height 0 are never written: nothing can be proved there. */
+        /** Where the row begins. The rows of height 0 are never written: nothing can be proved there. */
         private static int rowOf(int node, int height) {
-            return node >= 0 && node < MAX_NODES ? height * MAX_NODES + node : ABSENT;
-        }
-
-        private static boolean isWord(int row, int word) {
-            return row >= 0 && row < ROWS && word >= 0 && word < WORDS;
-        }
-
-        private static long setsWithout(int low) {
-            long sets = -1L;
-            for (int i = 0; i < WITHOUT.length; i++) {
-                if ((low >> i & 1) != 0) {
-                    sets &= WITHOUT[i];
-                }
-            }
-            return sets;
+            return node >= 0 && node < MAX_NODES ? (height * MAX_NODES + node) * WORDS : ABSENT;
         }
     }
 
@@ -1077,13 +1076,15 @@ public final class OnceProver {
 
         private long tallySplits(int first, int second, int set, int height) {
             long sum = 0;
-            for (int part = 0; part <= set; part++) {
-                if ((part & ~set) == 0 && reach.proves(first, part, height - 1)) {
+            int part = 0;
+            for (int more = partsOf(set); more > 0; more--) {
+                if (reach.proves(first, part, height - 1)) {
                     long others = tally(second, set ^ part, height - 1);
                     if (others != 0) {
                         sum = capped(sum + tally(first, part, height - 1) * others);
                     }
                 }
+                part = nextPart(part, set);
             }
             return sum;
         }
@@ -1208,14 +1209,15 @@ public final class OnceProver {
         }
 
         private void writeSplit(int first, int second, int set, int height) {
-            for (int part = 0; part <= set; part++) {
-                if ((part & ~set) == 0 && reach.proves(first, part, height - 1)
-                        && reach.proves(second, set ^ part, height - 1)) {
+            int part = 0;
+            for (int more = partsOf(set); more > 0; more--) {
+                if (reach.proves(first, part, height - 1) && reach.proves(second, set ^ part, height - 1)) {
                     append(SPLIT_CODE + part);
                     write(first, part, height - 1);
                     write(second, set ^ part, height - 1);
                     return;
                 }
+                part = nextPart(part, set);
             }
         }
 
