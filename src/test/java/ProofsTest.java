@@ -111,6 +111,20 @@ public final class ProofsTest {
         codeIs("200,100,60,0,50", "w:a<[b]b", "r:c<[d]d", "g:(a*c)");
         codeIs("50,60", "g:[a<[b]b]a");
         codeIs("50,60,70", "g:[a<b][b<c][c]a");
+        codesWithinTheHeight();
+    }
+
+    /** The smaller code 100,120 of an a is too high for the smallest height of these goals. */
+    private static void codesWithinTheHeight() {
+        String[] wells = {"w:a<b", "w:a", "w:b", "w:c<a"};
+        String[][] dues = {{"g:a", "110"}, {"g:!a", "110"}, {"g:(a*a)", "200,110,110"}, {"g:(a&a)", "110,110"},
+            {"g:(a+a)", "300,110"}, {"g:[h](a*h)", "200,110,50"}, {"g:c", "130,110"}, {"g:(b*(1*a))", "200,120,200,110"},
+            {"g:(a*(1*a))", "200,100,120,200,110"}, {"g:(a&!a)", "100,120,110"}};
+        for (String[] due : dues) {
+            OnceProver x = Due.with(wells);
+            Due.add(x, due[0]);
+            Due.same("the code of " + due[0], Due.code(x), due[1]);
+        }
     }
 
     private static void longCode() {

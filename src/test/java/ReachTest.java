@@ -78,6 +78,11 @@ public final class ReachTest {
         Due.add(x, "g:(1*1)");
         heightIs("1*1", x, 0, 2);
         heightIs("1*1", x, 1, OnceProver.NONE);
+        OnceProver y = Due.with("r:a", "r:b", "r:c", "r:d", "r:e", "g:[f][g][h]((((a*b)*(c*d))*((e*f)*(g*h)))*1)");
+        heightIs("all eight in one part", y, 31, 8);
+        heightIs("all eight but one", y, 30, OnceProver.NONE);
+        Due.add(y, "g:[f](((((a*b)*c)*(d*e))*f)*1)");
+        heightIs("the lowest six in one part", y, 31, 7);
     }
 
     private static void pairs() {
@@ -177,6 +182,9 @@ public final class ReachTest {
         Due.is("fewest: none", x.fewest(), OnceProver.NONE);
         Due.add(x, "g:T");
         Due.is("fewest: the empty set", x.fewest(), 0);
+        OnceProver five = Due.with("r:a", "r:b", "r:c", "r:d", "r:e", "g:(a*(b*(c*(d*e))))");
+        Due.is("fewest: all five", five.fewest(), 31);
+        Due.is("needed: all five", five.needed(), 31);
         OnceProver y = Due.with("r:b", "r:c<b", "r:a<c", "r:a<d", "r:d", "g:a");
         Due.is("fewest: a greater mask with fewer", y.fewest(), 24);
         Due.is("fewest without a goal", new OnceProver().fewest(), OnceProver.STATE);

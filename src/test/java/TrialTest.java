@@ -141,6 +141,8 @@ public final class TrialTest {
         checks("w:a g:a", row(101), WRONG, 0, 1);
         checks("w:a g:a", row(110), WRONG, 0, 1);
         checks("w:a g:a", row(180), WRONG, 0, 1);
+        checks("w:a g:a", row(80), WRONG, 0, 1);
+        checks("w:a w:a w:a w:a g:a", row(140), WRONG, 0, 1);
         checks("w:b g:a", row(100), WRONG, 0, 1);
         checks("r:a<a g:a", row(0, 0), WRONG, 1, 2);
         checks("r:a r:a g:(a*a)", row(201, 10), WRONG, 1, 2);
