@@ -801,6 +801,7 @@ public final class OnceProver {
      */
     private static final class Reach {
         private static final int WORDS = 4, WORD_BITS = 6, WORD_MASK = 63;
+
         private final Plan plan;
         private final long[] bits = new long[(MAX_HEIGHT + 1) * MAX_NODES * WORDS];
         private final long[] allSets = new long[WORDS];
