@@ -1,16 +1,29 @@
 /** Compares answers with those that are due, and ends the test. */
 final class Due {
+    static final int UNKNOWN = -1, OUTSIDE = -2, STATE = -3, FULL = -4, NONE = -6, FAULT = -7;
+    static final int MANY = 999999999;
+
     private static int wrong = 0;
     private static int asked = 0;
+    private static String about = "";
 
     private Due() {
+    }
+
+    /** What the next answers are about; it stands before each that is wrong. */
+    static void about(String sentence) {
+        about = sentence.isEmpty() ? "" : sentence + ": ";
+    }
+
+    static int asked() {
+        return asked;
     }
 
     static void is(String call, long got, long want) {
         asked++;
         if (got != want) {
             wrong++;
-            System.out.println(call + " answered " + got + ", due is " + want);
+            System.out.println(about + call + " answered " + got + ", due is " + want);
         }
     }
 
@@ -55,7 +68,7 @@ final class Due {
         asked++;
         if (!got.equals(want)) {
             wrong++;
-            System.out.println(what + " is " + got + ", due is " + want);
+            System.out.println(about + what + " is " + got + ", due is " + want);
         }
     }
 
