@@ -47,8 +47,8 @@ final class ErrorEdges {
         List<Call> last = List.of(call("height(3)", 3, x -> x.height(3)), call("ways(3, 10)", 1, x -> x.ways(3, 10)),
                 call("left(10, -1)", 1, x -> x.left(10, -1)), call("term(1)", 10, x -> x.term(1)),
                 call("check(0)", 2, x -> x.check(0)), call("image(1)", 1, x -> x.image(1)),
-                call("say('a')", 1, x -> x.say('a')), call("put(1)", 1, x -> x.put(1)), call("goal()", Due.FAULT, OnceProver::goal),
-                call("wipe()", 0, OnceProver::wipe), call("count(0)", 3, x -> x.count(0)));
+                call("say('a')", 1, x -> x.say('a')), call("put(1)", 1, x -> x.put(1)),
+                call("goal()", Due.FAULT, OnceProver::goal), call("wipe()", 0, OnceProver::wipe), call("count(0)", 3, x -> x.count(0)));
         for (Call one : last) {
             OnceProver x = Due.with("r:a", "r:b<a", "g:(b*T)");
             int calls = 2 + 4 + 6;
@@ -88,7 +88,8 @@ final class ErrorEdges {
     }
 
     private static final List<Call> WITHOUT_GOAL = List.of(call("drop(2, 0)", -3, x -> x.drop(2, 0)),
-            call("height(0)", -3, x -> x.height(0)), call("left(0, -1)", -3, x -> x.left(0, -1)), call("left(10, 0)", -3, x -> x.left(10, 0)),
+            call("height(0)", -3, x -> x.height(0)), call("left(0, -1)", -3, x -> x.left(0, -1)),
+            call("left(10, 0)", -3, x -> x.left(10, 0)),
             call("ways(0, 0)", -3, x -> x.ways(0, 0)), call("ways(0, 10)", -3, x -> x.ways(0, 10)),
             call("fewest()", -3, OnceProver::fewest), call("needed()", -3, OnceProver::needed),
             call("term(-1)", -3, x -> x.term(-1)), call("term(0)", -3, x -> x.term(0)),

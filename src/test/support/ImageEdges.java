@@ -286,9 +286,9 @@ final class ImageEdges {
         Due.is("both", x.count(7), 3);
         x.restore(0);
         Due.is("both stay", x.count(7), 3);
-        OnceProver y = Due.with("r:a");
+        OnceProver y = new OnceProver();
         y.image(0);
-        Due.is("place 0", y.count(7), 1);
+        Due.is("place 0, with nothing in the prover", y.count(7), 1);
     }
 
     @Says(of = "Promise 21", words = "Returns the number;")

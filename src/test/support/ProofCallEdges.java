@@ -30,6 +30,12 @@ final class ProofCallEdges {
         Due.is("number 4", x.ways(16, 10), 3);
         Due.is("all five", x.ways(31, 10), 3);
         Due.is("without number 4", x.ways(15, 10), 0);
+        Due.add(x, "g:(T*T)");
+        for (int set = 0; set <= 31; set++) {
+            for (int h = 0; h <= 10; h++) {
+                Due.is("ways(" + set + ", " + h + ")", x.ways(set, h), h < 2 ? 0 : 1 << Integer.bitCount(set));
+            }
+        }
     }
 
     @Says(of = "Promise 11", words = "`h`: the height, 0 to 10")

@@ -11,6 +11,20 @@ final class ProofEdges {
         Due.same("the code of " + String.join(" ", texts), Due.code(Due.with(texts)), want);
     }
 
+    /**
+     * In the goal stands an a, which has one proof within height 1 and two within height 2, the latter with
+     * the smaller code; with the a within height 1 the goal has this height.
+     */
+    private static void partHasHeight(String goal, int height) {
+        OnceProver x = Due.with("w:a<b", "w:a", "w:b", "w:d<a", "g:" + goal);
+        Due.is(goal + ": height(0)", x.height(0), height);
+        Due.is(goal + ": ways(0, " + (height - 1) + ")", x.ways(0, height - 1), 0);
+        Due.is(goal + ": ways(0, " + height + ")", x.ways(0, height), 1);
+        Due.is(goal + ": ways(0, " + (height + 1) + ")", x.ways(0, height + 1), 2);
+        Due.is(goal + ": uses of the smaller code", x.uses(1, 0), 0);
+        Due.is(goal + ": uses of the greater code", x.uses(1, 1), 1);
+    }
+
     @Says(of = "Proofs", words = "Whether a goal can be proved from a set M of single-use offers within a height h (0 to 10) "
             + "is defined as follows.")
     static void heightsToTen() {
@@ -59,6 +73,9 @@ final class ProofEdges {
         heightIs(x, 3, Due.NONE);
         Due.add(x, "g:[b]a");
         heightIs(x, 1, Due.NONE);
+        OnceProver y = Due.with("r:a|a<b", "r:b", "g:a");
+        Due.is("ways without what is left", y.ways(3, 10), 1);
+        Due.same("the code without what is left", Due.code(y), "1,10");
     }
 
     @Says(of = "Proofs", words = "or if its body can be proved from M without this offer within height h - 1;")
@@ -76,6 +93,7 @@ final class ProofEdges {
         heightIs(z, 1, 10);
         Due.add(z, "r:a<!!!!!!!!!1");
         heightIs(z, 2, Due.NONE);
+        partHasHeight("[c<a]c", 3);
     }
 
     @Says(of = "Proofs", words = "or with such a face of a well, if the face has no body and M is empty,")
@@ -88,6 +106,9 @@ final class ProofEdges {
         Due.add(x, "g:b");
         heightIs(x, 1, 1);
         heightIs(x, 0, Due.NONE);
+        OnceProver y = Due.with("r:b", "w:a|a<b", "g:a");
+        Due.is("ways without what is left", y.ways(1, 10), 1);
+        Due.same("the code without what is left", Due.code(y), "101,0");
     }
 
     @Says(of = "Proofs", words = "or if its body can be proved from M within height h - 1.")
@@ -101,6 +122,7 @@ final class ProofEdges {
         heightIs(x, 0, 10);
         Due.add(x, "w:d<!!!!!!!!!1", "g:d");
         heightIs(x, 0, Due.NONE);
+        partHasHeight("d", 2);
     }
 
     @Says(of = "Proofs", words = "- 1: if M is empty.")
@@ -136,6 +158,8 @@ final class ProofEdges {
         heightIs(x, 0, 2);
         Due.add(x, "g:[c]!T");
         heightIs(x, 0, Due.NONE);
+        partHasHeight("!a", 2);
+        partHasHeight("!!!!!!!!a", 9);
     }
 
     @Says(of = "Proofs", words = "- (A*B): if for some subset S of M, A can be proved from S, and B from the rest of M, "
@@ -162,6 +186,9 @@ final class ProofEdges {
         heightIs(x, 3, Due.NONE);
         Due.add(x, "g:(!!!!!!!!!1*T)");
         heightIs(x, 3, Due.NONE);
+        partHasHeight("(a*1)", 2);
+        partHasHeight("(1*a)", 2);
+        partHasHeight("[c](a*c)", 3);
     }
 
     @Says(of = "Proofs", words = "- (A&B): if both A and B can be proved from M within height h - 1.")
@@ -181,6 +208,8 @@ final class ProofEdges {
         heightIs(x, 0, Due.NONE);
         Due.add(x, "g:(!!!!!!!!!1&1)");
         heightIs(x, 0, Due.NONE);
+        partHasHeight("(a&1)", 2);
+        partHasHeight("(1&a)", 2);
     }
 
     @Says(of = "Proofs", words = "- (A+B): if A or B can be proved from M within height h - 1.")
@@ -198,6 +227,8 @@ final class ProofEdges {
         heightIs(x, 3, 3);
         Due.add(x, "g:(!!!!!!!!!1+!!!!!!!!1)");
         heightIs(x, 0, 10);
+        partHasHeight("(a+h)", 2);
+        partHasHeight("(h+a)", 2);
     }
 
     @Says(of = "Proofs", words = "- [R]A: if the loan R is not in M, and A can be proved from M together with R within height h - 1.")
@@ -210,10 +241,15 @@ final class ProofEdges {
         heightIs(x, 1, 3);
         Due.add(x, "g:[a]b");
         heightIs(x, 1, Due.NONE);
-        OnceProver busy = Due.with("w:c<[d]c|c<(d*d)", "g:c");
-        heightIs(busy, 0, Due.NONE);
-        OnceProver once = Due.with("w:c<[d]c|c<d", "g:c");
-        Due.is("the loan is busy: ways(0, 10)", once.ways(0, 10), 1);
+        partHasHeight("[c](c*a)", 3);
+        String[] loansBefore = {"w:h", "w:h<[g]h", "w:h<[g][g]h"};
+        for (int n = 0; n < loansBefore.length; n++) {
+            OnceProver busy = Due.with(loansBefore[n], "w:c<[d]c|c<(d*d)", "g:c");
+            heightIs(busy, 0, Due.NONE);
+            OnceProver once = Due.with(loansBefore[n], "w:c<[d]c|c<d", "g:c");
+            Due.is("the loan " + (5 + n) + " is busy: ways(0, 10)", once.ways(0, 10), 1);
+            Due.same("the code with the loan " + (5 + n), Due.code(once), "110,111," + 10 * (5 + n));
+        }
         OnceProver again = Due.with("w:c<[d](d*c)|c", "g:c");
         Due.is("the loan has been used: ways(0, 10)", again.ways(0, 10), 4);
     }
@@ -332,5 +368,7 @@ final class ProofEdges {
         codeIs("110", "w:a<1", "w:a", "g:a");
         codeIs("1", "r:a<(T*T)|a<T", "g:a");
         codeIs("301", "g:((T*T)+T)");
+        codeIs("201,101", "r:a", "w:c<a|c", "g:(T*c)");
+        codeIs("201,0", "r:c", "w:c<1", "g:(c*T)");
     }
 }

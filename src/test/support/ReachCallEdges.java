@@ -238,6 +238,11 @@ final class ReachCallEdges {
         Due.is("two are in the way", x.needed(), 7);
         Due.add(x, "g:h");
         Due.is("no proof at all", x.needed(), 7);
+        Due.add(x, "g:1");
+        Due.is("a proof, but from fewer", x.needed(), 7);
+        x.drop(0, 0);
+        x.drop(0, 1);
+        Due.is("a proof from nothing", x.needed(), 0);
     }
 
     @Says(of = "Promise 13", words = "Returns the set of them;")

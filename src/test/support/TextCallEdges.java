@@ -371,6 +371,28 @@ final class TextCallEdges {
         Due.is("without the resource", x.height(1), Due.UNKNOWN);
     }
 
+    @Says(of = "Promise 8", words = "Removes a resource, a well, or the goal.")
+    static void dropRemovesWhatHasBeenUsed() {
+        OnceProver x = Due.with("r:c", "w:a", "w:d<c", "r:c|c<[e]e", "g:(a*(d*T))");
+        Due.same("the code with all", Due.code(x), "200,100,201,110,0");
+        x.drop(0, 0);
+        Due.same("the code without a resource", Due.code(x), "200,100,202,110,10");
+        Due.add(x, "r:c<1");
+        Due.same("the code with another resource", Due.code(x), "200,100,202,110,10");
+        x.drop(0, 1);
+        Due.same("the code with that alone", Due.code(x), "200,100,201,110,0");
+        x.drop(1, 0);
+        Due.same("the code without a well", Due.code(x), "none");
+        Due.is("height(1) without a well", x.height(1), Due.NONE);
+        Due.is("ways(1, 10) without a well", x.ways(1, 10), 0);
+        Due.add(x, "w:a<h");
+        Due.is("height(1) with another well", x.height(1), Due.NONE);
+        Due.add(x, "w:h");
+        Due.is("height(1) with a third well", x.height(1), 5);
+        x.drop(2, 0);
+        Due.is("height(1) without a goal", x.height(1), Due.STATE);
+    }
+
     @Says(of = "Promise 8", words = "`kind`: 0: a resource; 1: a well; 2: the goal")
     static void dropKinds() {
         OnceProver x = Due.with("r:a", "w:a", "g:a");

@@ -323,8 +323,14 @@ final class TextEdges {
         for (int n = 0; n <= 7; n++) {
             Due.is("uses(0, " + n + ")", x.uses(0, n), 1);
         }
-        Due.add(x, "g:[a](a&a)");
-        Due.is("once is not enough for six", x.height(31), Due.NONE);
+        OnceProver y = Due.with("r:a", "r:b", "r:c", "r:d", "r:e");
+        String others = "g:[f][g][h](((a*b)*(c*d))*((e*f)*(g*(h*";
+        for (char atom = 'a'; atom <= 'h'; atom++) {
+            Due.add(y, others + atom + "))))");
+            Due.is("not a second " + atom, y.height(31), Due.NONE);
+        }
+        Due.add(y, others + "1))))");
+        Due.is("no second one", y.height(31), 8);
     }
 
     @Says(of = "Texts", words = "Sets of them are bit masks: bit i stands for number i.")

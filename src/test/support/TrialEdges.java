@@ -53,6 +53,14 @@ final class TrialEdges {
         Due.is("put(500)", x.put(500), Due.OUTSIDE);
     }
 
+    @Says(of = "Trials", words = "the number is none that can stand for this goal:")
+    static void greatestNumbersThatCanStand() {
+        checks("g:[a][b][c|d|e](a*(b*e))", row(232, 50, 264, 60, 72), PROOF, 5, 6);
+        checks("w:a w:a w:a w:a|b|c g:c", row(132), PROOF, 1, 1);
+        checks("r:a r:a r:a r:a r:b|c|a g:(T*a)", row(215, 42), PROOF, 2, 2);
+        checks("r:a r:a r:a r:a r:a g:[a][a][a](T*1)", row(455), PROOF, 1, 5);
+    }
+
     @Says(of = "Trials", words = "It is checked as the code of a proof of the goal from all resources,")
     static void fromAllResources() {
         verdictIs("r:a g:a", row(0), PROOF);
@@ -251,6 +259,8 @@ final class TrialEdges {
         checks("g:([a]a*[a]a)", row(200, 50, 60), PROOF, 3, 3);
         checks("w:a<[b]T|a<(a&a) g:a", row(101, 100, 100), PROOF, 3, 5);
         checks("w:a<[b]c w:c<[b]a|c<T g:a", row(100, 110, 100), BUSY, 3, 6);
+        checks("w:h<[b][b]h w:a<[b]a g:a", row(110, 110), BUSY, 2, 4);
+        checks("w:h<[b][b]h w:a<[b]T g:a", row(110), PROOF, 1, 3);
     }
 
     @Says(of = "Trials", words = "If nothing is wrong, but numbers are left at the end, the result is 6 long;")
@@ -408,6 +418,13 @@ final class TrialEdges {
         Due.is("count(6)", x.count(6), 1);
         Due.add(x, "g:b");
         Due.is("with another goal", x.check(0), WRONG);
+        Due.add(x, "g:(a&(a&T))");
+        Due.puts(x, 0, 0);
+        Due.checks("with a higher goal", x, PROOF, 2, 3);
+        Due.add(x, "g:a");
+        Due.checks("with a lower goal", x, LONG, 1, 1);
+        x.trial(0);
+        Due.checks("with no number", x, SHORT, 0, 1);
     }
 
     @Says(of = "Promise 18", words = "`what`: 0: the result, 0 to 6;")
