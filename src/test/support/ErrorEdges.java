@@ -48,7 +48,8 @@ final class ErrorEdges {
                 call("left(10, -1)", 1, x -> x.left(10, -1)), call("term(1)", 10, x -> x.term(1)),
                 call("check(0)", 2, x -> x.check(0)), call("image(1)", 1, x -> x.image(1)),
                 call("say('a')", 1, x -> x.say('a')), call("put(1)", 1, x -> x.put(1)),
-                call("goal()", Due.FAULT, OnceProver::goal), call("wipe()", 0, OnceProver::wipe), call("count(0)", 3, x -> x.count(0)));
+                call("goal()", Due.FAULT, OnceProver::goal),
+                call("wipe()", 0, OnceProver::wipe), call("count(0)", 3, x -> x.count(0)));
         for (Call one : last) {
             OnceProver x = Due.with("r:a", "r:b<a", "g:(b*T)");
             int calls = 2 + 4 + 6;
@@ -111,16 +112,16 @@ final class ErrorEdges {
         }
     }
 
-    /** No room for a character, a number, a resource, a well; 58 nodes and three [ are there. */
-    private static OnceProver full(String text) {
+    /** No room for a resource, a well, or a character [. */
+    private static OnceProver withoutRoom(String text) {
         OnceProver x = Due.with("r:a", "r:a", "r:a", "r:a", "r:a", "w:a", "w:a", "w:a", "w:a",
                 "g:[a][a][a]" + "!".repeat(48) + "1");
         Due.say(x, text);
         return x;
     }
 
-    /** Room for resources and wells, but none for a node more, or for a character [. */
-    private static OnceProver fullOfNodes(String text) {
+    /** Room for resources and wells, but none for a node or a character [ more. */
+    private static OnceProver withoutRoomForNodes(String text) {
         OnceProver x = Due.with("r:a<[a]1", "w:a<[a]1", "g:[a]" + "!".repeat(54) + "1");
         Due.say(x, text);
         return x;
@@ -128,13 +129,13 @@ final class ErrorEdges {
 
     @Says(of = "Errors", words = "FULL (-4): there is no room.")
     static void full() {
-        Due.is("say to 60", full("a".repeat(60)).say('a'), -4);
-        Due.is("a sixth resource", full("a").resource(), -4);
-        Due.is("a fifth well", full("a").well(), -4);
-        Due.is("a goal of four [", full("[a][a][a][a]a").goal(), -4);
-        Due.is("a resource with a node", fullOfNodes("a<1").resource(), -4);
-        Due.is("a well with a node", fullOfNodes("a<1").well(), -4);
-        Due.is("a goal with a node more", fullOfNodes("!".repeat(56) + "1").goal(), -4);
+        Due.is("say to 60", withoutRoom("a".repeat(60)).say('a'), -4);
+        Due.is("a sixth resource", withoutRoom("a").resource(), -4);
+        Due.is("a fifth well", withoutRoom("a").well(), -4);
+        Due.is("a goal of four [", withoutRoom("[a][a][a][a]a").goal(), -4);
+        Due.is("a resource with a node", withoutRoomForNodes("a<1").resource(), -4);
+        Due.is("a well with a node", withoutRoomForNodes("a<1").well(), -4);
+        Due.is("a goal with a node more", withoutRoomForNodes("!".repeat(56) + "1").goal(), -4);
         OnceProver x = new OnceProver();
         for (int i = 0; i < 60; i++) {
             x.put(i);
@@ -155,13 +156,13 @@ final class ErrorEdges {
 
     @Says(of = "Errors", words = "If several of them apply, the one that the method names first is returned.")
     static void theFirstOfSeveral() {
-        OnceProver text = full("(".repeat(60));
+        OnceProver text = withoutRoom("(".repeat(60));
         Due.is("say(32): OUTSIDE before FULL", text.say(32), Due.OUTSIDE);
-        Due.is("resource(): FAULT before FULL", full("a|").resource(), Due.FAULT);
-        Due.is("resource(): FAULT before FULL of [", full("a<[b]").resource(), Due.FAULT);
-        Due.is("well(): FAULT before FULL", full("a|").well(), Due.FAULT);
-        Due.is("goal(): FAULT before FULL", full("[a][a][a][a]").goal(), Due.FAULT);
-        Due.is("goal(): FAULT before FULL of nodes", fullOfNodes("!".repeat(58)).goal(), Due.FAULT);
+        Due.is("resource(): FAULT before FULL", withoutRoom("a|").resource(), Due.FAULT);
+        Due.is("resource(): FAULT before FULL of [", withoutRoom("a<[b]").resource(), Due.FAULT);
+        Due.is("well(): FAULT before FULL", withoutRoom("a|").well(), Due.FAULT);
+        Due.is("goal(): FAULT before FULL", withoutRoom("[a][a][a][a]").goal(), Due.FAULT);
+        Due.is("goal(): FAULT before FULL of nodes", withoutRoomForNodes("!".repeat(58)).goal(), Due.FAULT);
         OnceProver x = Due.with("r:a");
         Due.is("drop(3, 9): OUTSIDE before UNKNOWN", x.drop(3, 9), Due.OUTSIDE);
         Due.is("drop(-1, -1): OUTSIDE before UNKNOWN", x.drop(-1, -1), Due.OUTSIDE);
