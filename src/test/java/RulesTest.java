@@ -1,4 +1,7 @@
 import java.io.IOException;
+import java.lang.reflect.Field;
+import java.lang.reflect.Method;
+import java.lang.reflect.Modifier;
 import java.nio.file.Files;
 import java.nio.file.Path;
 import java.util.Set;
@@ -10,7 +13,7 @@ import java.util.regex.Pattern;
 public final class RulesTest {
     private static final Set<String> LIBRARY = Set.of("Arrays", "Integer", "Long", "Math", "String", "StringBuilder",
             "System", "List", "ArrayList", "Iterator", "Iterable", "Comparable");
-    private static final int LINES_OF_A_METHOD = 60;
+    private static final int LINES_OF_A_METHOD = 60, PARAMETERS = 7, FIELDS = 20;
 
     public static void main(String[] args) throws IOException {
         String source = Files.readString(Path.of("src/main/java/OnceProver.java"));
@@ -29,6 +32,10 @@ public final class RulesTest {
         classes(code);
         privateNames(code);
         methodLengths(source);
+        members(OnceProver.class);
+        for (Class<?> inside : OnceProver.class.getDeclaredClasses()) {
+            members(inside);
+        }
         Due.end();
     }
 
@@ -64,6 +71,25 @@ public final class RulesTest {
             names.add(matcher.group(1));
         }
         return names;
+    }
+
+    private static void members(Class<?> one) {
+        int fields = 0;
+        for (Field field : one.getDeclaredFields()) {
+            boolean isStatic = Modifier.isStatic(field.getModifiers());
+            fields += isStatic ? 0 : 1;
+            Due.is("static, but not final: " + field, isStatic && !Modifier.isFinal(field.getModifiers()) ? 1 : 0, 0);
+            Due.is("static, but no number: " + field, isStatic && !field.getType().isPrimitive() ? 1 : 0, 0);
+            Class<?> part = field.getType().getComponentType();
+            Due.is("rows of rows: " + field, part != null && part.isArray() && !part.getComponentType().isPrimitive() ? 1 : 0, 0);
+        }
+        Due.is("more than " + FIELDS + " fields: " + one, Math.max(FIELDS, fields), FIELDS);
+        for (Method method : one.getDeclaredMethods()) {
+            Due.is("more than " + PARAMETERS + " parameters: " + method,
+                    Math.max(PARAMETERS, method.getParameterCount()), PARAMETERS);
+            Due.is("made by the compiler: " + method, method.isSynthetic() ? 1 : 0, 0);
+        }
+        Due.is("classes inside a class inside", one == OnceProver.class ? 0 : one.getDeclaredClasses().length, 0);
     }
 
     /** A method begins with a line that ends in ") {" and ends with a brace of the same indent. */
